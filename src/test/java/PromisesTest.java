@@ -71,6 +71,20 @@ public final class PromisesTest {
       due(1, "count(" + what + ")", x.count(what), 0);
     }
     due(1, "at(0)", x.at(0), -2);
+    due(16, "over() without a march", x.over(), -2);
+    due(17, "why() without a march", x.why(), -2);
+    due(21, "most() without a march", x.most(), -2);
+    due(22, "peak() without a march", x.peak(), -2);
+    due(32, "loop() without a march", x.loop(), -2);
+    due(33, "farthest() without a march", x.farthest(), -2);
+    due(37, "missed() without a march", x.missed(), -2);
+    due(42, "soonest() without a march", x.soonest(), -2);
+    due(43, "ends() without a march", x.ends(), -2);
+    due(44, "content(0) without a march", x.content(0), -2);
+    due(45, "buys(0) without a march", x.buys(0), -2);
+    due(53, "shammers(0) without a march", x.shammers(0), -2);
+    due(55, "mean(0, 0) without a march", x.mean(0, 0), -2);
+    due(63, "drawn(0, 0) without a march", x.drawn(0, 0), -2);
     due(5, "fault(0) ahead of any", x.fault(0), 0);
     due(5, "fault(1) ahead of any", x.fault(1), NONE);
     due(5, "fault(2)", x.fault(2), NONE);
@@ -126,6 +140,15 @@ public final class PromisesTest {
     fault(head + "road 1 to 0 long 100;", 2, 54);
     fault(head + "road 1 to 3 long 1;", 2, 47);
     fault(head + "road 3 to 3 long 1;", 2, 42);
+    fault(head + "person at 3", 2, 47);
+    fault(head + "person at 0 wants 3", 2, 55);
+    fault(head + "roada", 1, 37);
+    fault(head + "roadz", 1, 37);
+    fault(head + "road 0 toa", 1, 44);
+    fault(head + "road 0 toz", 1, 44);
+    fault(head + "road 0 to`", 1, 46);
+    fault(head + "road 0 to/", 1, 46);
+    fault(head + "road 0 to:", 1, 46);
     fault(head + "person at 0 wants 0 reason 6", 2, 64);
     fault(head + "person at 0 wants 0 reason 5 needs 10", 2, 72);
     fault(head + "person at 0 wants 0 reason 5 needs 9 board 0", 2, 80);
@@ -153,8 +176,11 @@ public final class PromisesTest {
     due(4, "all else stays", x.count(7), 14);
     due(4, "all else stays", x.barred(), 2);
     due(4, "the tape is empty", x.count(8), 0);
+    due(11, "at(1), the march that stays", x.at(1), 1);
     feed(x, BARE);
     due(4, "march() in place of another", x.march(), 1);
+    due(11, "at(0), the new march", x.at(0), 1);
+    due(16, "over(), the new march", x.over(), 0);
     due(5, "fault(0) without", x.fault(0), 0);
     due(5, "fault(1) without", x.fault(1), NONE);
     due(4, "nothing done", x.barred(), 0);
@@ -416,6 +442,12 @@ public final class PromisesTest {
     due(49, "starts, not two each", x.starts(3), -2);
     due(50, "ask, not two each", x.ask(3), -2);
     due(51, "rules, not two each", x.rules(3), -2);
+    put(x, 3, 3, 0, 60, 4, -1);
+    due(49, "starts of 0 60 4 NONE", x.starts(3), 0);
+    put(x, 3, 3, 60, -1);
+    due(51, "rules of 60 NONE", x.rules(3), 15);
+    put(x, 3, 3, 60, 4);
+    due(51, "rules of 60 4", x.rules(3), 0);
     long[][] noFalls = {{5, 0}, {-1, 0}, {0, 61}, {0, -2}, {1L << 32, 0}, {0, 1L << 32}};
     for (long[] pair : noFalls) {
       put(x, 3, 3, 0, 0, pair[0], pair[1]);
@@ -443,6 +475,11 @@ public final class PromisesTest {
     x.bar(3, 1);
     due(52, "shams(1, 0), the ROAD shut", x.shams(1, 0), 0);
     due(53, "shammers(0) by rule 0", told(hills(0)).shammers(0), 0);
+    // PERSON 1 falls in just behind a STEP at the PLACE he wants: what counts is when it comes there again.
+    MarchFolk again = told("march places 3 start 2 rule 0 odds 0; road 0 to 2 long 2; road 0 to 1 long 1; road 1 to 2 long 1;"
+        + "person at 2 wants 0 reason 0 needs 0 board 1; person at 0 wants 2 reason 0 needs 0 board 1;");
+    due(11, "at(3), by the way around", again.at(3), 2);
+    due(52, "shams(1, 1), the direct ROAD", again.shams(1, 1), 4);
   }
 
   private static void fraction(MarchFolk x, int place, int n, long above, long below) {
@@ -487,6 +524,8 @@ public final class PromisesTest {
     due(64, "luck(1002, 3, 1)", x.luck(1002, 3, 1), 1);
     due(64, "luck(1002, 3, 0)", x.luck(1002, 3, 0), 3);
     due(64, "luck(2000000000, 20, 0)", x.luck(2000000000, 20, 0), 20);
+    due(63, "drawn(0, 2)", told(BARE).drawn(0, 2), 2);
+    due(64, "luck(0, 20, 1)", told(BARE).luck(0, 20, 1), 20);
     due(64, "luck(0, 0, 0)", x.luck(0, 0, 0), -2);
     due(64, "luck(0, 21, 0)", x.luck(0, 21, 0), -2);
     due(64, "luck(2000000001, 1, 0)", x.luck(2000000001, 1, 0), -2);
@@ -511,15 +550,23 @@ public final class PromisesTest {
     due(59, "barred()", x.barred(), 4);
     due(61, "undo()", x.undo(), 3);
     due(59, "barred()", x.barred(), 4);
+    due(11, "at(3), barred", x.at(3), NONE);
+    x.answer(0, 0);
+    due(11, "at(3), barred, nothing answered", x.at(3), 1);
+    x.undo();
+    due(11, "at(3), taken back", x.at(3), NONE);
     due(57, "bar(2, 0)", x.bar(2, 0), 1);
     due(59, "barred()", x.barred(), 0);
     due(65, "need(1, 2), acts", x.need(1, 2), -5);
     due(65, "need(1, 10), acts", x.need(1, 10), -2);
     due(66, "count(6)", x.count(6), 4);
+    due(16, "over() ahead of anew()", x.over(), 0);
     due(62, "anew()", x.anew(), 4);
     due(66, "count(6)", x.count(6), 0);
     due(16, "over(), anew", x.over(), 4);
     due(65, "need(1, 2)", x.need(1, 2), 1);
+    due(65, "need(1, 0)", x.need(1, 0), 2);
+    due(65, "need(1, 2)", x.need(1, 2), 0);
     due(65, "need(1, -1)", x.need(1, -1), -2);
     due(65, "need(5, 0)", x.need(5, 0), -2);
     due(7, "person(1, 3), need", x.person(1, 3), 2);
@@ -606,6 +653,10 @@ public final class PromisesTest {
     due(69, "row(0, -1, 1)", x.row(0, -1, 1), -2);
     due(69, "row(0, 0, 61)", x.row(0, 0, 61), -2);
     due(69, "row(0, 4, -1)", x.row(0, 4, -1), -2);
+    due(69, "row(3, 3, 60)", x.row(3, 3, 60), 0);
+    due(70, "write(3, 59, 1)", x.write(3, 59, 1), 0);
+    due(70, "write(3, 60, 1)", x.write(3, 60, 1), -7);
+    due(71, "paste of 60", x.paste(3, 0, 3, 0, 60), 0);
     due(69, "row(0, 0, -1)", x.row(0, 0, -1), -3);
     due(70, "write(0, 0, 0), nothing", x.write(0, 0, 0), -6);
     due(70, "write(0, -1, 0), nothing", x.write(0, -1, 0), -6);
