@@ -156,6 +156,10 @@ public final class MarchFolk {
         return what == 0 || what == 1;
     }
 
+    private boolean isOnOrOff(int on) {
+        return on == 0 || on == 1;
+    }
+
     private static boolean holds(int bits, int number) {
         return ((bits >> number) & 1) == 1;
     }
@@ -615,10 +619,12 @@ public final class MarchFolk {
             return NO_SUCH;
         }
         tell();
-        int farthest = plan.start;
-        for (int n = 1; n < STEPS; n++) {
-            int place = walk.where[n];
-            if (place != NONE && ways.lengthOf(plan.start, place) > ways.lengthOf(plan.start, farthest)) {
+        int farthest = NONE;
+        int longest = NONE;
+        for (int place = 0; place < plan.places; place++) {
+            int length = ways.lengthOf(plan.start, place);
+            if (holds(walk.seen, place) && length > longest) {
+                longest = length;
                 farthest = place;
             }
         }
@@ -1129,7 +1135,7 @@ public final class MarchFolk {
     // ---- Acts ----
 
     public int answer(int reason, int on) {
-        if (!isMarch() || reason < 0 || reason >= REASONS) {
+        if (!isMarch() || reason < 0 || reason >= REASONS || !isOnOrOff(on)) {
             return NO_SUCH;
         }
         if (acts.count >= MOST_ACTS) {
@@ -1143,7 +1149,7 @@ public final class MarchFolk {
     }
 
     public int bar(int road, int on) {
-        if (!isRoad(road)) {
+        if (!isRoad(road) || !isOnOrOff(on)) {
             return NO_SUCH;
         }
         if (acts.count >= MOST_ACTS) {

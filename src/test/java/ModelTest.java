@@ -332,8 +332,8 @@ public final class ModelTest {
     }
     due("loop", x.loop(), loop);
     int far = m.start;
-    for (int n = 60; n >= 0; n--) {
-      if (t.at[n] >= 0 && w.table[0][m.start][t.at[n]] >= w.table[0][m.start][far]) far = t.at[n];
+    for (int p = m.places - 1; p >= 0; p--) {
+      if ((t.visits() >> p & 1) == 1 && w.table[0][m.start][p] >= w.table[0][m.start][far]) far = p;
     }
     due("farthest", x.farthest(), far);
     for (int p = 0; p < m.places; p++) {
@@ -609,11 +609,13 @@ public final class ModelTest {
       int on = random.nextInt(3);
       if (random.nextBoolean()) {
         int r = random.nextInt(6);
-        due("answer", x.answer(r, on), m.answered >> r & 1);
+        due("answer", x.answer(r, on), on == 2 ? -2 : m.answered >> r & 1);
+        if (on == 2) continue;
         m.answered = on == 0 ? m.answered & ~(1 << r) : m.answered | 1 << r;
       } else if (!m.roads.isEmpty()) {
         int r = random.nextInt(m.roads.size());
-        due("bar", x.bar(r, on), m.barred >> r & 1);
+        due("bar", x.bar(r, on), on == 2 ? -2 : m.barred >> r & 1);
+        if (on == 2) continue;
         m.barred = on == 0 ? m.barred & ~(1 << r) : m.barred | 1 << r;
       }
     }

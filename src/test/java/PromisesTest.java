@@ -372,7 +372,20 @@ public final class PromisesTest {
         + "person at 0 wants 2 reason 0 needs 0 board 1; person at 0 wants 1 reason 0 needs 0 board 1;");
     due(11, "at(1), the first's VOTE", x.at(1), 2);
     due(11, "at(3)", x.at(3), 1);
-    due(33, "farthest(), the first of two", x.farthest(), 2);
+    due(33, "farthest(), the first of two by number", x.farthest(), 1);
+    // 0 and 4 are as far as one another, 4 is come to first; 2 is farther, but never come to.
+    MarchFolk about = told("march places 5 start 3 rule 2 odds 0; road 3 to 4 long 7; road 3 to 0 long 7;"
+        + "road 3 to 2 long 8; road 3 to 1 long 6; person at 3 wants 4 reason 0 needs 0 board 1;"
+        + "person at 3 wants 0 reason 0 needs 0 board 1; person at 3 wants 1 reason 0 needs 0 board 1;");
+    due(18, "comes(4)", about.comes(4), 1);
+    due(18, "comes(0)", about.comes(0), 3);
+    due(33, "farthest() of 4, 0 and 1", about.farthest(), 0);
+    about.bar(1, 1);
+    due(33, "farthest() of 4 alone", about.farthest(), 4);
+    about.bar(0, 1);
+    due(33, "farthest() of 1 alone", about.farthest(), 1);
+    about.bar(3, 1);
+    due(33, "farthest(), it goes nowhere", about.farthest(), 3);
   }
 
   private static void stops() {
@@ -575,6 +588,13 @@ public final class PromisesTest {
     due(56, "answer(6, 1)", x.answer(6, 1), -2);
     due(56, "answer(-1, 1)", x.answer(-1, 1), -2);
     due(57, "bar(5, 1)", x.bar(5, 1), -2);
+    for (int on : new int[] {2, -1, 256, Integer.MIN_VALUE, Integer.MAX_VALUE}) {
+      due(56, "answer(0, " + on + ")", x.answer(0, on), -2);
+      due(57, "bar(0, " + on + ")", x.bar(0, on), -2);
+      due(66, "count(6), no act more", x.count(6), 0);
+      due(58, "answered(), nothing is done", x.answered(), 0);
+      due(59, "barred(), nothing is done", x.barred(), 0);
+    }
     for (int i = 0; i < 40; i++) {
       due(56, "answer " + i, x.answer(5, 1), i == 0 ? 0 : 1);
     }
@@ -582,6 +602,8 @@ public final class PromisesTest {
     due(57, "a 41st act", x.bar(0, 1), -5);
     due(56, "a 41st act of no REASON", x.answer(6, 0), -2);
     due(57, "a 41st act of no ROAD", x.bar(5, 1), -2);
+    due(56, "a 41st act, neither on nor off", x.answer(5, 2), -2);
+    due(57, "a 41st act, neither on nor off", x.bar(0, 2), -2);
     due(61, "undo() of 40", x.undo(), 39);
     due(57, "a 40th act", x.bar(0, 1), 0);
     due(61, "undo()", x.undo(), 39);
