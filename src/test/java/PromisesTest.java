@@ -388,6 +388,37 @@ public final class PromisesTest {
     due(33, "farthest(), it goes nowhere", about.farthest(), 3);
   }
 
+  /** Two with boards of 4 and 3 vote for 1, one with a board of more or less votes for 2. */
+  private static String weighed(int rule, int board) {
+    return "march places 3 start 0 rule " + rule + " odds 0; road 0 to 1 long 1; road 0 to 2 long 1;"
+        + "person at 0 wants 1 reason 0 needs 0 board 4; person at 0 wants 1 reason 0 needs 0 board 3;"
+        + "person at 0 wants 2 reason 0 needs 0 board " + board + ";";
+  }
+
+  private static void rulesOfTurning() {
+    due(11, "at(1), RULE 0, the most VOTES", told(weighed(0, 99)).at(1), 1);
+    due(11, "at(1), RULE 1, less weight", told(weighed(1, 6)).at(1), 1);
+    due(11, "at(1), RULE 1, as much weight", told(weighed(1, 7)).at(1), 1);
+    due(11, "at(1), RULE 1, more weight", told(weighed(1, 8)).at(1), 2);
+    due(27, "carries(0), RULE 1, more weight", told(weighed(1, 8)).carries(0), 1);
+    due(11, "at(1), RULE 2, who fell in first", told(weighed(2, 99)).at(1), 1);
+    due(11, "at(1), RULE 3, who fell in last", told(weighed(3, 1)).at(1), 2);
+  }
+
+  /** PERSON 0 leaves at once, but PERSON 1 needs him: it is over by either one's REASON. */
+  private static void cheapest() {
+    String needy = "march places 2 start 0 rule 0 odds 0; road 0 to 1 long 1;"
+        + "person at 0 wants 0 reason 0 needs 0 board 1; person at 0 wants 1 reason 1 needs 1 board 1;";
+    MarchFolk x = told(needy + "grant 0 costs 9; grant 1 costs 2;");
+    due(40, "stop(1), the cheaper one", x.stop(1), 2);
+    due(41, "stops(1), the cheaper one", x.stops(1), 2);
+    due(42, "soonest()", x.soonest(), 0);
+    due(43, "ends(), the cheaper one", x.ends(), 2);
+    MarchFolk alike = told(needy + "grant 0 costs 2; grant 1 costs 2;");
+    due(41, "stops(1), the least of two", alike.stops(1), 1);
+    due(43, "ends(), the least of two", alike.ends(), 1);
+  }
+
   private static void stops() {
     MarchFolk x = told(hills(0));
     int[] stop = {NONE, 5, 5, 5, 0, -2};
@@ -739,6 +770,8 @@ public final class PromisesTest {
     folk();
     endless();
     farAlike();
+    rulesOfTurning();
+    cheapest();
     stops();
     seen();
     shams();
