@@ -53,6 +53,7 @@ public final class EdgesOfActsTest {
     due("answer(5, 0)", x.answer(5, 0), 1);
     due("over(), no more", x.over(), 3);
     due("answer(5, 0)", x.answer(5, 0), 0);
+    wouldBe();
 
     says("56", "-5: there are 40 acts (not taken back)");
     due("answer as a 40th act", acted(39).answer(0, 1) + acted(39).answer(0, 0), 0);
@@ -77,6 +78,47 @@ public final class EdgesOfActsTest {
     for (int on : new int[] {-1, 2, 256, -1000, MIN, MAX}) {
       Edges.leavesAlone("answer(5, " + on + ")", Edges::busy, y -> y.answer(5, on), -2);
     }
+  }
+
+  /** What is answered and shut counts in all that would be, but for the sets in its own place. */
+  private static void wouldBe() {
+    String text = Edges.hills(0, 0);
+    MarchFolk x = Edges.told(text);
+    x.row(0, 0, 2);
+    x.row(1, 0, 2);
+    x.write(1, 0, 1);
+    due("starts of 0 0", x.starts(0), 1);
+    due("rules of 1 0", x.rules(1), 0);
+    due("chance(1, 1, 0)", x.chance(1, 1, 0), 1);
+    due("mean(0, 0)", x.mean(0, 0), 2);
+    due("drawn(0, 1)", x.drawn(0, 1), 15);
+    due("luck(0, 20, 1)", x.luck(0, 20, 1), 20);
+    due("shut(2)", x.shut(2), 1);
+    due("trap(0, 2)", x.trap(0, 2), 2);
+    x.answer(0, 1);
+    x.write(1, 1, -1);
+    due("starts of 0 0, answered", x.starts(0), 0);
+    due("rules of 1 NONE, answered", x.rules(1), 15);
+    due("chance(1, 1, 0), answered", x.chance(1, 1, 0), 0);
+    due("mean(0, 0), answered", x.mean(0, 0), 0);
+    due("drawn(0, 1), answered", x.drawn(0, 1), 0);
+    due("luck(0, 20, 1), answered", x.luck(0, 20, 1), 0);
+    due("shut(2), answered", x.shut(2), 0);
+    due("trap(0, 2), answered", x.trap(0, 2), 0);
+    MarchFolk shut = Edges.told(text);
+    shut.bar(0, 1);
+    shut.bar(3, 1);
+    shut.row(1, 0, 2);
+    shut.write(1, 0, 1);
+    shut.write(1, 1, -1);
+    due("rules of 1 NONE, shut", shut.rules(1), 15);
+    due("chance(1, 8, 0), shut", shut.chance(1, 8, 0), 0);
+    due("drawn(0, 0), shut", shut.drawn(0, 0), 0);
+    due("luck(0, 20, 1), shut", shut.luck(0, 20, 1), 0);
+    due("stop(1), shut", shut.stop(1), 0);
+    due("shams(0, 0), shut", shut.shams(0, 0), 0);
+    due("soonest(), shut", shut.soonest(), 0);
+    due("ends(), shut", shut.ends(), 0);
   }
 
   private static void bars() {
@@ -301,11 +343,75 @@ public final class EdgesOfActsTest {
     x.answer(1, 1);
     due("back(0)", x.back(0), 0);
     due("acts", x.count(6), 0);
+    actsKept();
+    needsKept();
+    rowsStay();
+
     says("67", "-2: no such k.");
     Edges.bounds("image", k -> full().image(k), 0, 0, 2, 0, -2);
     for (int k : new int[] {-1, 3, -1000, MIN, MAX}) {
       Edges.leavesAlone("image(" + k + ")", Edges::busy, y -> y.image(k), -2);
     }
+  }
+
+  /** What each act of an image took the place of is the image's own too. */
+  private static void actsKept() {
+    MarchFolk x = full();
+    x.answer(1, 1);
+    x.answer(2, 1);
+    x.bar(3, 1);
+    x.image(2);
+    x.anew();
+    x.bar(4, 1);
+    x.bar(5, 1);
+    x.answer(0, 1);
+    for (int round = 0; round < 2; round++) {
+      due("back(2)", x.back(2), 0);
+      due("answered()", x.answered(), 6);
+      due("barred()", x.barred(), 8);
+      due("undo()", x.undo(), 2);
+      due("barred()", x.barred(), 0);
+      due("undo()", x.undo(), 1);
+      due("answered()", x.answered(), 2);
+      due("undo()", x.undo(), 0);
+      due("answered()", x.answered(), 0);
+      x.answer(5, 1);
+      x.answer(4, 1);
+      x.bar(9, 1);
+    }
+  }
+
+  /** needs of a PERSON are the image's own. */
+  private static void needsKept() {
+    MarchFolk x = full();
+    x.need(0, 3);
+    x.image(1);
+    x.need(0, 4);
+    due("person(0, 3)", x.person(0, 3), 4);
+    for (int round = 0; round < 2; round++) {
+      due("back(1)", x.back(1), 0);
+      due("person(0, 3), back", x.person(0, 3), 3);
+      due("need(0, 5)", x.need(0, 5), 3);
+      Edges.feed(x, Edges.hills(1, 1));
+      x.march();
+    }
+  }
+
+  /** The rows are neither the MARCH's nor the image's. */
+  private static void rowsStay() {
+    MarchFolk x = rowed(0, 1, 4, 5, 6);
+    x.image(0);
+    x.answer(0, 1);
+    x.undo();
+    x.anew();
+    x.write(0, 1, 6);
+    Edges.feed(x, Edges.full());
+    x.march();
+    Edges.feed(x, "?");
+    x.march();
+    x.back(0);
+    due("SLOTS that have a row", x.count(9), 1);
+    numbers("a row behind march() and back()", x, 0, 4, 6, 6);
   }
 
   private static MarchFolk imaged() {
@@ -627,6 +733,37 @@ public final class EdgesOfActsTest {
     }
   }
 
+  private static void manyCalls() {
+    says("WHAT", "at most 512 calls after it has been made");
+    MarchFolk x = new MarchFolk();
+    Edges.feed(x, Edges.full());
+    x.march();
+    int calls = (Edges.full().length() + 19) / 20 + 2;
+    for (int k = 0; calls + 10 <= 509; k++) {
+      x.answer(k % 6, 1);
+      x.bar(k % 10, 1);
+      x.image(k % 3);
+      x.anew();
+      x.row(k % 4, k % 4, 60);
+      x.write(k % 4, 59, k);
+      x.paste(k % 4, 0, k % 4, 1, 59);
+      x.drawn(k, 1);
+      x.shuts(k % 7);
+      x.shammers(k % 61);
+      calls += 10;
+    }
+    while (calls < 509) {
+      x.at(0);
+      calls++;
+    }
+    due("the 510th call, drawn(1, 1)", x.drawn(1, 1), 0);
+    due("the 511th call, shuts(0)", x.shuts(0), 528);
+    due("the 512th call, over()", x.over(), 3);
+    MarchFolk y = new MarchFolk();
+    for (int k = 1; k < 512; k++) due("call " + k + " of one kind, image", y.image(1), 0);
+    due("the 512th call, count(0)", y.count(0), 0);
+  }
+
   private static void ahead() {
     says("SLOTS", "-2 (-1,000 and the like) is asked ahead of -5, -6.");
     for (int wild : new int[] {-1000, -1, 10, MIN, MAX}) {
@@ -663,6 +800,7 @@ public final class EdgesOfActsTest {
     writes();
     pastes();
     ahead();
+    manyCalls();
     List<String> keys = new ArrayList<>(List.of(Edges.promises(56, 62, "SLOTS")));
     keys.addAll(List.of(Edges.promises(65, 71)));
     Edges.end(keys.toArray(new String[0]));

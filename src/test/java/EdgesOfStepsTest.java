@@ -399,6 +399,8 @@ public final class EdgesOfStepsTest {
     says("31", "PERSONS in it at STEP n who VOTE for another PLACE than that to which it goes, as bits (0, too, if it goes nowhere).");
     due("turned(0) of four and four", eight.turned(0), 240);
     due("turned(60), endless", endless().turned(60), 1);
+    due("turned(59), it goes to 0", endless().turned(59), 2);
+    due("turned(1), those not in it don't VOTE", hills().turned(1), 4);
     due("turned(3), over then", x.turned(3), 0);
     due("turned(0), no VOTE", told(fork(0) + person(0, 3, 0, 0, 1)).turned(0), 0);
     due("turned(0), one has no VOTE", told(fork(0) + person(0, 3, 0, 0, 1) + person(0, 1, 0, 0, 1)).turned(0), 0);
@@ -456,10 +458,10 @@ public final class EdgesOfStepsTest {
     says("33", "The PLACE it comes to that is farthest from its start (by way()), the first of several.");
     due("farthest(), nobody", bare().farthest(), 1);
     due("farthest(), 7 long, not 99", x.farthest(), 0);
-    MarchFolk alike = told(head(3, 0, 2) + "road 0 to 1 long 5; road 0 to 2 long 5;" + person(0, 2, 0, 0, 1)
-        + person(0, 1, 0, 0, 1));
+    MarchFolk alike = told(head(4, 0, 2) + "road 0 to 1 long 5; road 0 to 2 long 5; road 0 to 3 long 6;"
+        + person(0, 2, 0, 0, 1) + person(0, 1, 0, 0, 1));
     due("comes(2), ahead of 1", alike.comes(2), 1);
-    due("farthest() of 1 and 2", alike.farthest(), 1);
+    due("farthest() of 1 and 2, it never comes to 3", alike.farthest(), 1);
     says("33", "-2 likewise.");
     due("farthest(), no MARCH", none().farthest(), -2);
 
@@ -488,6 +490,7 @@ public final class EdgesOfStepsTest {
     due("waits(0), no MARCH", none().waits(0), -2);
 
     says("37", "PERSONS who never fall in, though it comes to their home, as bits.");
+    due("missed() ahead of any other call", full().missed(), 1);
     due("missed(), one of seven", x.missed(), 1);
     due("missed(), two", waiting.missed(), 12);
     due("missed(), nobody", bare().missed(), 0);

@@ -64,6 +64,8 @@ public final class EdgesOfTextTest {
     words(HEAD, "grant 0 costs 1;");
     fault(HEAD + "grand 0 costs 1;", 1, 37);
 
+    bareMarch();
+
     says("I", "march is the first LINE and no other");
     fault("road 0 to 1 long 1;", 1, 0);
     fault(PERSON + HEAD, 1, 0);
@@ -241,14 +243,61 @@ public final class EdgesOfTextTest {
   private static void newObject() {
     says("1", "No MARCH.");
     MarchFolk x = new MarchFolk();
-    for (int what : new int[] {0, 4, 5, 6, 7, 8, 9}) due("count(" + what + ")", x.count(what), 0);
-    due("at(0)", x.at(0), -2);
-    due("over()", x.over(), -2);
-    due("way(0, 0)", x.way(0, 0), -2);
-    due("answered()", x.answered(), -2);
-    due("back(0)", x.back(0), -6);
-    due("write(0, 0, 0)", x.write(0, 0, 0), -6);
+    due("bytes of the TAPE", x.count(8), 0);
+    due("SLOTS that have a row", x.count(9), 0);
+    due("end(1)", x.end(1), NONE);
     due("fault(0)", x.fault(0), 0);
+    for (int k = 0; k < 3; k++) due("back(" + k + ")", x.back(k), -6);
+    for (int slot = 0; slot < 4; slot++) due("write(" + slot + ", 0, 0)", x.write(slot, 0, 0), -6);
+    noMarch("a new object", x);
+  }
+
+  /** All calls that ask of a MARCH, without one, with numbers that would be right for any. */
+  private static void noMarch(String of, MarchFolk x) {
+    for (int what : new int[] {0, 4, 5, 6, 7}) due(of + ", count(" + what + ")", x.count(what), 0);
+    x.row(0, 0, 0);
+    long[] answers = {
+      x.road(0, 0), x.person(0, 0), x.way(0, 0), x.next(0, 0), x.reach(0), x.at(0), x.crowd(0), x.votes(0, 0),
+      x.joins(0), x.leaves(0), x.over(), x.why(), x.comes(0), x.often(0), x.paces(0), x.most(), x.peak(),
+      x.boards(0), x.cause(0), x.weighs(0), x.splits(0), x.carries(0), x.parties(0), x.together(0, 0), x.walks(0),
+      x.turned(0), x.loop(), x.farthest(), x.crew(0), x.eldest(0), x.waits(0), x.missed(), x.needed(0),
+      x.trap(0, 0), x.stop(0), x.stops(0), x.soonest(), x.ends(), x.content(0), x.buys(0), x.shut(0), x.shuts(0),
+      x.cut(0, 0), x.starts(0), x.ask(0), x.rules(0), x.shams(0, 0), x.shammers(0), x.chance(0, 0, 0), x.mean(0, 0),
+      x.answer(0, 1), x.bar(0, 1), x.answered(), x.barred(), x.costs(), x.undo(), x.anew(), x.drawn(0, 0),
+      x.luck(0, 1, 0), x.need(0, 0)};
+    for (int i = 0; i < answers.length; i++) due(of + ", call " + i + " of a MARCH", answers[i], -2);
+    due(of + ", acts", x.count(6), 0);
+  }
+
+  /** All calls that ask of a MARCH, of one without LINES behind its first: nobody is in it, over at STEP 0. */
+  private static void bareMarch() {
+    MarchFolk x = Edges.told(Edges.BARE);
+    x.row(0, 0, 0);
+    long[] two = {
+      x.road(0, 0), x.person(0, 0), x.joins(0), x.leaves(0), x.together(0, 0), x.walks(0), x.waits(0), x.needed(0),
+      x.shams(0, 0), x.bar(0, 1), x.need(0, 0)};
+    for (int i = 0; i < two.length; i++) due("call " + i + " of a ROAD or a PERSON", two[i], -2);
+    long[] none = {
+      x.way(0, 1), x.next(0, 1), x.next(1, 1), x.at(1), x.comes(0), x.peak(), x.cause(0), x.carries(0), x.loop(),
+      x.eldest(0), x.trap(0, 0), x.trap(0, 1), x.stop(1), x.stops(1), x.shut(1), x.shuts(1), x.cut(1, 1), x.ask(0)};
+    for (int i = 0; i < none.length; i++) due("call " + i + " that answers NONE", none[i], NONE);
+    long[] zero = {
+      x.way(1, 1), x.crowd(0), x.votes(0, 0), x.over(), x.why(), x.often(0), x.paces(60), x.most(), x.boards(0),
+      x.weighs(0), x.splits(0), x.parties(0), x.turned(0), x.crew(1), x.missed(), x.stop(0), x.stops(0),
+      x.soonest(), x.ends(), x.content(63), x.buys(600), x.shut(0), x.shuts(0), x.cut(0, 1), x.shammers(0),
+      x.chance(0, 8, 0), x.mean(8, 0), x.answered(), x.barred(), x.costs(), x.anew(), x.drawn(0, 0), x.drawn(0, 1),
+      x.luck(0, 20, 0), x.answer(5, 1)};
+    for (int i = 0; i < zero.length; i++) due("call " + i + " that answers 0", zero[i], 0);
+    long[] one = {
+      x.at(0), x.often(1), x.farthest(), x.chance(0, 8, 1), x.chance(1, 0, 0), x.chance(1, 0, 1), x.mean(8, 1),
+      x.luck(0, 1, 1), x.count(6), x.count(7)};
+    for (int i = 0; i < one.length; i++) due("call " + i + " that answers 1", one[i], 1);
+    due("reach(1)", x.reach(1), 2);
+    due("drawn(0, 2)", x.drawn(0, 2), 2);
+    due("starts of no numbers", x.starts(0), 3);
+    due("rules of no numbers", x.rules(0), 15);
+    due("costs() without grants", x.costs(), 0);
+    due("undo()", x.undo(), 0);
   }
 
   private static final int BLANKS = 0x20202020;
@@ -335,9 +384,14 @@ public final class EdgesOfTextTest {
   private static void marches() {
     says("4", "The TAPE (empty then) is the MARCH (in place of another), nothing done: how many LINES (0: there is none then).");
     MarchFolk x = Edges.busy();
+    due("at(0) ahead of it", x.at(0), 0);
+    due("way(0, 1) ahead of it", x.way(0, 1), 3);
     x.march();
+    due("at(0) behind a FAULT", x.at(0), 0);
     Edges.feed(x, Edges.BARE);
     due("march()", x.march(), 1);
+    due("at(0) of the new one", x.at(0), 1);
+    due("way(0, 1) of the new one", x.way(0, 1), NONE);
     due("bytes of the TAPE", x.count(8), 0);
     due("end(1)", x.end(1), NONE);
     due("PLACES", x.count(0), 2);
@@ -355,10 +409,14 @@ public final class EdgesOfTextTest {
     x.answer(1, 1);
     due("grants of the other", x.costs(), 0);
     due("march() of no LINES", x.march(), 0);
-    due("no MARCH then", x.over(), -2);
-    due("no acts then", x.count(6), 0);
-    due("no MARCH then", x.answered(), -2);
-    due("PLACES", x.count(0), 0);
+    noMarch("behind a march of one LINE", x);
+    Edges.feed(x, Edges.full());
+    x.march();
+    x.bar(9, 1);
+    x.at(60);
+    feedBlanks(x);
+    due("march() of blanks", x.march(), 0);
+    noMarch("behind a full march", x);
     Edges.feed(x, Edges.BARE);
     due("march() again", x.march(), 1);
     fullTape();

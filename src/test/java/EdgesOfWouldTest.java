@@ -1,3 +1,6 @@
+import java.util.List;
+import java.util.function.ToLongFunction;
+
 /**
  * The edges that the document names of what would be: Terms IV to VII, Promises 38 (needed) to 55 (mean),
  * 63 (drawn) and 64 (luck).
@@ -72,6 +75,7 @@ public final class EdgesOfWouldTest {
     due("needed(0), who needs all seven", x.needed(0), 254);
     due("needed(6), who needs one", x.needed(6), 128);
     due("needed(7), who needs nobody", x.needed(7), 0);
+    due("needed(1), who needs 0", either("").needed(1), 1);
     due("needed(2), one of two would do", told(head(2, 0, 0) + "road 0 to 1 long 1;"
         + Edges.times(2, person(0, 1, 0, 0, 1)) + person(0, 1, 0, 1, 1)).needed(2), 0);
     due("needed(0), who does not", full().needed(0), 0);
@@ -134,6 +138,11 @@ public final class EdgesOfWouldTest {
     due("answered(), as before", x.answered(), 32);
     due("at(0), as before", x.at(0), 6);
     due("at(1), as before", x.at(1), NONE);
+    MarchFolk shut = full();
+    shut.bar(9, 1);
+    shut.bar(4, 1);
+    due("stop(0), both ROADS shut stay so", shut.stop(0), 0);
+    due("stops(0), both ROADS shut stay so", shut.stops(0), 0);
     String all = "grant0costs1;grant1costs2;grant2costs4;grant3costs8;grant4costs16;grant5costs99;";
 
     says("40", "STOP: the least that a set of REASONS costs (IV) by whose answer it never comes to a PLACE (STEPS 0 .. 60).");
@@ -238,6 +247,8 @@ public final class EdgesOfWouldTest {
     due("shuts(1), all ten", tenRoads().shuts(1), 1023);
     due("shuts(2), it never comes there", tenRoads().shuts(2), 0);
     due("shuts(5), one of two", y.shuts(5), 16);
+    due("shuts(2), one of a great number, not two of small ones", told(head(3, 0, 0)
+        + "road 0 to 1 long 1; road 0 to 1 long 1; road 1 to 2 long 1;" + person(0, 2, 0, 0, 1)).shuts(2), 4);
     due("shuts(0), one pair of two", y.shuts(0), 528);
     says("47", "NONE, -2 likewise.");
     due("shuts(0), its start", tenRoads().shuts(0), NONE);
@@ -294,6 +305,7 @@ public final class EdgesOfWouldTest {
     due("starts of 7 60", with(text, 0, 7, 60).starts(1), 0);
     due("starts of 0 NONE", with(text, 3, 0, -1).starts(1), 127);
     due("starts of 7 0 7 NONE", with(text, 0, 7, 0, 7, -1).starts(1), 0);
+    due("starts of 7 NONE 0 NONE", with(text, 0, 7, -1, 0, -1).starts(1), 63);
     MarchFolk sixty = told(text);
     thirty(sixty, 2, 7, 0, 0, -1);
     due("starts of thirty pairs", sixty.starts(2), 64);
@@ -334,10 +346,13 @@ public final class EdgesOfWouldTest {
     // Three PLACES, no ROADS: by each PERSON two are left at worst.
     due("ask, the first of two", with(head(3, 0, 0) + person(2, 0, 0, 0, 1) + person(1, 0, 0, 0, 1), 0).ask(1), 0);
     due("ask, the better one", with(head(4, 0, 0) + "road 0 to 1 long 1;" + person(2, 0, 0, 0, 1)
-        + person(0, 1, 0, 0, 1) + person(1, 0, 0, 0, 1), 0).ask(1), 1);
+        + person(0, 1, 0, 0, 1) + person(1, 0, 0, 0, 1) + person(3, 0, 0, 0, 1), 0).ask(1), 1);
+    // From 1 and 2 alone, PERSON 1 is known to fall in or not: that he wouldn't from 0 is no matter.
+    due("ask, of these alone", with(head(3, 0, 0) + person(0, 1, 0, 0, 1) + person(1, 0, 0, 0, 1), 0, 0, -1).ask(1), 1);
     says("50", "NONE: none");
     due("ask, six alike", with(text, 0, 7, -1).ask(1), NONE);
     due("ask, one is left", with(text, 0, 7, 0).ask(1), NONE);
+    due("ask, 0 is left", with(Edges.hills(0, 5), 0, 1, 0).ask(1), NONE);
     due("ask, none is left", with(text, 0, 7, 60).ask(1), NONE);
     due("ask, there are no PERSONS", with(Edges.BARE, 0).ask(1), NONE);
     says("50", "-2, -6 likewise.");
@@ -411,6 +426,10 @@ public final class EdgesOfWouldTest {
     due("shams(7, 3), no more in it", full().shams(7, 3), 0);
     due("shams(0, 0), never in it", full().shams(0, 0), 0);
     due("shams(7, 0), by the long ROAD", full().shams(7, 0), 1);
+    // PERSON 2 wants 1 as 0 does, and it is tied just so; but he is never in it.
+    MarchFolk outside = told(Edges.tied(0, 0, person(4, 1, 2, 9, 1)));
+    due("shams(2, 0), not in it", outside.shams(2, 0), 0);
+    due("shammers(0), one is not in it", outside.shammers(0), 3);
 
     says("VI", "if he voted for it at that STEP, it would come to where he wants to be at an earlier STEP behind n"
         + " than it does (or at all, to 60).");
@@ -418,8 +437,8 @@ public final class EdgesOfWouldTest {
     due("shams(0, 0), another way is as good", told(square + person(0, 3, 0, 0, 1)).shams(0, 0), 0);
     due("shams(0, 0), the direct one is better", told(square + "road 0 to 3 long 9;" + person(0, 3, 0, 0, 1)).shams(0, 0), 8);
     // PERSON 1 falls in at 0 at STEP 1; it was at 2, where he wants to be, at STEP 0.
-    MarchFolk again = told(head(3, 2, 0) + "road 0 to 2 long 2; road 0 to 1 long 1; road 1 to 2 long 1;"
-        + person(2, 0, 0, 0, 1) + person(0, 2, 0, 0, 1));
+    MarchFolk again = told(head(4, 2, 0) + "road 0 to 2 long 2; road 0 to 1 long 1; road 1 to 2 long 1;"
+        + "road 0 to 3 long 9;" + person(2, 0, 0, 0, 1) + person(0, 2, 0, 0, 1));
     due("shams(1, 1), behind STEP 1", again.shams(1, 1), 4);
     due("shams(0, 55), at STEP 60 at all", x.shams(0, 55), 16);
     due("shams(0, 57), at STEP 62", x.shams(0, 57), 0);
@@ -432,7 +451,15 @@ public final class EdgesOfWouldTest {
     due("shams(0, 54), at STEP 59 at all", odd.shams(0, 54), 16);
     due("shams(0, 56), at STEP 61", odd.shams(0, 56), 0);
 
+    String fork = head(3, 0, 0) + "road 0 to 1 long 1; road 0 to 2 long 1;";
+    due("shams(0, 0), later", told(fork + person(0, 1, 0, 0, 1)).shams(0, 0), 0);
+    due("shams(0, 0), the others go there all the same",
+        told(fork + Edges.times(3, person(0, 1, 0, 0, 1))).shams(0, 0), 0);
+
     says("52", "SHAM (VI): PLACES for which a PERSON would rather vote falsely at STEP n, as bits.");
+    due("shams(0, 0), two PLACES", told(head(6, 0, 0) + "road 0 to 1 long 1; road 1 to 2 long 1; road 2 to 4 long 1;"
+        + "road 4 to 3 long 1; road 0 to 3 long 99; road 0 to 5 long 50; road 5 to 3 long 50;"
+        + person(0, 3, 0, 0, 1)).shams(0, 0), 40);
     due("shams(0, 0), by tie", x.shams(0, 0), 2);
     due("shams(0, 1), by two VOTES", x.shams(0, 1), 16);
     says("52", "-2: there are none such, no MARCH.");
@@ -587,7 +614,32 @@ public final class EdgesOfWouldTest {
     due("luck(0, 1, 0), no MARCH", none().luck(0, 1, 0), -2);
   }
 
+  /** Each call that tells of what would be leaves what others tell as it is, whichever comes first. */
+  private static void eachByItself() {
+    List<ToLongFunction<MarchFolk>> calls = List.of(
+        x -> x.needed(1), x -> x.trap(1, 4), x -> x.stops(2), x -> x.ends(), x -> x.shuts(2), x -> x.cut(0, 4),
+        x -> x.starts(0), x -> x.ask(1), x -> x.rules(2), x -> x.shams(0, 1), x -> x.shammers(2), x -> x.chance(4, 4, 0),
+        x -> x.mean(3, 0), x -> x.drawn(1878, 2), x -> x.luck(7, 20, 2), x -> x.at(60), x -> x.way(3, 4), x -> x.joins(2));
+    says("IV", "from STEP 0 on in place of those answered");
+    for (int i = 0; i < calls.size(); i++) {
+      for (int j = 0; j < calls.size(); j++) {
+        MarchFolk x = asked();
+        calls.get(i).applyAsLong(x);
+        due("call " + j + " behind call " + i, calls.get(j).applyAsLong(x), calls.get(j).applyAsLong(asked()));
+      }
+    }
+  }
+
+  private static MarchFolk asked() {
+    MarchFolk x = rainy(0, 5);
+    Edges.put(x, 0, 0, 2, 1);
+    Edges.put(x, 1, 0);
+    Edges.put(x, 2, 0, 1, 2);
+    return x;
+  }
+
   public static void main(String[] args) {
+    eachByItself();
     needed();
     traps();
     stops();

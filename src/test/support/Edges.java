@@ -36,7 +36,7 @@ final class Edges {
 
   // ---- The document ----
 
-  /** By their keys: the Terms "I" to "VII", "TOKENS", "FAULTS", "SLOTS", and the promises "1" to "71". */
+  /** By their keys: "WHAT" it is, the Terms "I" to "VII", "TOKENS", "FAULTS", "SLOTS", the promises "1" to "71". */
   private static Map<String, String> sections() {
     Map<String, String> all = new TreeMap<>();
     String key = "";
@@ -47,7 +47,7 @@ final class Edges {
       if (promise.matches()) {
         key = promise.group(1);
       } else if (line.startsWith("## ")) {
-        key = "";
+        key = line.equals("## What it is") ? "WHAT" : "";
       } else if (term.matches()) {
         key = term.group(1);
       } else if (block.matches()) {
