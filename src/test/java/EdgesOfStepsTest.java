@@ -372,6 +372,7 @@ public final class EdgesOfStepsTest {
     says("26", "-2 likewise.");
     Edges.bounds("splits", eight::splits, 0, 16, 60, 0, -2);
     due("splits(60), endless", endless().splits(60), 1);
+    due("splits(59), for 0 and 4", endless().splits(59), 1);
     due("splits(0), no MARCH", none().splits(0), -2);
 
     says("27", "How many in it at STEP n vote for the PLACE to which it goes then.");

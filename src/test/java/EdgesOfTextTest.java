@@ -367,6 +367,8 @@ public final class EdgesOfTextTest {
     due("feed behind what is left", feedBlanks(cut), 57);
     due("march() of the first bytes and the new ones", cut.march(), 1);
 
+    cutAnywhere();
+
     says("3", "NONE, and nothing happens, if it has not so many, or n is below 0.");
     Edges.bounds("end, an empty TAPE,", n -> new MarchFolk().end(n), 0, 0, 0, 0, NONE);
     Edges.bounds("end, 27 bytes,", n -> blanks(27).end(n), 0, 0, 27, 27, NONE);
@@ -379,6 +381,29 @@ public final class EdgesOfTextTest {
     less.end(20);
     due("end(21) of what was cut away", less.end(21), NONE);
     due("end(800) of what was cut away", less.end(800), NONE);
+  }
+
+  /** What was fed behind the first n bytes, and cut away, is read no more, though it would go on well. */
+  private static void cutAnywhere() {
+    String text = HEAD + PERSON;
+    for (int n = 0; n <= text.length(); n++) {
+      MarchFolk x = new MarchFolk();
+      Edges.feed(x, text);
+      due("end(" + n + ")", x.end(n), n);
+      boolean whole = n == 0 || n == HEAD.length() || n == text.length();
+      int place = n;
+      boolean inWord = !whole && Character.isLetter(text.charAt(n - 1)) && Character.isLetter(text.charAt(n));
+      while (inWord && place > 0 && Character.isLetter(text.charAt(place - 1))) place--;
+      due("march() of " + n + " bytes", x.march(), !whole ? -4 : n == 0 ? 0 : n == text.length() ? 2 : 1);
+      due("fault(0) of " + n + " bytes", x.fault(0), whole ? 0 : 1);
+      due("fault(1) of " + n + " bytes", x.fault(1), whole ? NONE : place);
+    }
+    MarchFolk digits = new MarchFolk();
+    Edges.feed(digits, "march places 777");
+    digits.end(14);
+    due("march() of one digit of three", digits.march(), -4);
+    due("fault(0)", digits.fault(0), 1);
+    due("fault(1)", digits.fault(1), 14);
   }
 
   private static void marches() {
