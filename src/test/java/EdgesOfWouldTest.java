@@ -618,10 +618,10 @@ public final class EdgesOfWouldTest {
   /** Each call that tells of what would be leaves what others tell as it is, whichever comes first. */
   private static void eachByItself() {
     List<ToLongFunction<MarchFolk>> calls = List.of(
-        x -> x.needed(2), x -> x.trap(1, 4), x -> x.stops(2), x -> x.ends(), x -> x.shuts(2), x -> x.cut(0, 4),
-        x -> x.starts(0), x -> x.ask(1), x -> x.rules(2), x -> x.shams(0, 0), x -> x.shammers(0), x -> x.chance(4, 4, 0),
-        x -> x.mean(3, 0), x -> x.drawn(1878, 2), x -> x.luck(7, 20, 2), x -> x.at(2), x -> x.way(3, 4), x -> x.joins(2));
-    long[] want = {3, 4, 2, 3, 8, 1, 1, 0, 11, 2, 1, 3, 7, 31, 6, 4, 3, 1};
+        x -> x.needed(2), x -> x.needed(1), x -> x.trap(1, 4), x -> x.stops(2), x -> x.ends(), x -> x.shuts(2),
+        x -> x.cut(0, 4), x -> x.starts(0), x -> x.ask(1), x -> x.rules(2), x -> x.shams(0, 0), x -> x.shammers(0),
+        x -> x.chance(4, 4, 0), x -> x.mean(3, 0), x -> x.drawn(1878, 2), x -> x.luck(7, 20, 2), x -> x.at(2), x -> x.way(3, 4), x -> x.joins(2));
+    long[] want = {3, 0, 4, 2, 3, 8, 1, 1, 0, 11, 2, 1, 3, 7, 31, 6, 4, 3, 1};
     says("IV", "from STEP 0 on in place of those answered");
     for (int i = 0; i < calls.size(); i++) {
       for (int j = 0; j < calls.size(); j++) {
